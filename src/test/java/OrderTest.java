@@ -78,6 +78,7 @@ final class OrderTest {
             Check.due("never open, what " + what, paint.order(1, 0, 3, 0, what), -1);
         }
         orders(paint, "till the end of all", 3, 2394, 2400, 2400, 0);
+        orders(paint, "the last moment", 8, 2399, 2400, 2400, 3);
         orders(paint, "not till the end of all", 3, 2395, -1, -1, -1);
         Check.due("bay 1 first, as bay 0 is open on day 199 alone", paint.order(2, 0, 3, 0, 0), 2390);
         Check.due("bay 0 first cannot be", paint.order(2, 0, 3, 0, 1), -1);

@@ -316,5 +316,6 @@ final class PastTest {
         Check.index("known 200", () -> paint.below(0, 1, 200));
         Check.index("the index first", () -> paint.below(0, 0, 200));
         Check.due("the greatest limit", paint.below(1, 500, 0), 1);
+        Check.due("as known on day 199", paint.below(0, 298, 199), 50);
     }
 }

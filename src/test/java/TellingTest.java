@@ -177,9 +177,16 @@ final class TellingTest {
         Check.due("hour 4 of day 4 is in none", paint.at(0, 0, 4, 4, 4), 10);
         Check.due("day 5 is in none", paint.at(0, 0, 5, 5, 4), 10);
         paint.weather(0, 199, 0, 11, -1, 7);
-        Check.due("told again: wet without wind", paint.at(0, 0, 3, 5, 5), 1);
+        Check.due("wet without wind", paint.at(0, 0, 3, 5, 5), 1);
         Check.due("told again: wind", paint.at(0, 0, 3, 5, 3), 0);
         Check.due("told again: heat", paint.at(0, 0, 199, 11, 4), 7);
+        paint.weather(0, 199, 11, 11, 0, 8);
+        Check.due("wind 0 is not wet", paint.at(0, 0, 9, 11, 5), 0);
+        Check.due("wind 0", paint.at(0, 0, 9, 11, 3), 0);
+        Check.due("from hour 11 to 11", paint.at(0, 0, 9, 11, 4), 8);
+        paint.weather(199, 199, 11, 11, 1, 9);
+        Check.due("wind 1 is not wet", paint.at(0, 0, 199, 11, 5), 0);
+        Check.due("wind 1", paint.at(0, 0, 199, 11, 3), 1);
     }
 
     private static void promise7() {
@@ -292,13 +299,24 @@ final class TellingTest {
             text.append("or1<0");
         }
         for (int terms = 0; terms < 3; terms++) {
-            String last = text.substring(0, text.length() - 3) + (terms == 1 ? "0<1" : "2<1");
+            String last = text.substring(0, text.length() - 3) + (terms == 1 ? "2<1" : "0<1");
             Check.argument("a long wrong text", () -> Check.terms(paint, text + "x"));
             Check.due("a long text", Check.terms(paint, last), terms);
         }
         Check.full("a long fourth text", () -> Check.terms(paint, text.toString()));
         for (int terms = 0; terms < 3; terms++) {
-            Check.due("terms " + terms, paint.why(terms, 0, 0, 0), terms == 1 ? 2 : 0);
+            Check.due("terms " + terms, paint.why(terms, 0, 0, 0), terms == 1 ? 0 : 2);
+        }
+        BridgePaint lines = new BridgePaint();
+        lines.bay(0, 0, 1, 0);
+        for (int terms = 0; terms < 3; terms++) {
+            Check.due("ten lines", Check.terms(lines, "pay 1;pay 1;pay 1;pay 1;pay 1;pay 1;pay 1;pay 1;stop if 1<0;"
+                    + (terms == 1 ? "dry 1" : "stop if 0<1")), terms);
+        }
+        Check.full("ten lines more", () -> Check.terms(lines, "dry 9;".repeat(9) + "dry 9"));
+        for (int terms = 0; terms < 3; terms++) {
+            Check.due("the tenth line of terms " + terms, lines.why(terms, 0, 0, 0), terms == 1 ? 0 : 11);
+            Check.due("dry of terms " + terms, lines.at(terms, 0, 0, 0, 0), terms == 1 ? 1 : 0);
         }
     }
 
@@ -365,6 +383,16 @@ final class TellingTest {
         fault("stop if 12 34 < 5", 11);
         fault("stop if 123 < 5", 8);
         fault("if wet", 0);
+        fault("stopz if wet", 0);
+        fault("astop if wet", 0);
+        fault("holds stop", 6);
+        fault("stop if stop < 3", 8);
+        fault("stop if 1 = 1", 10);
+        fault("stop if wet - 1", 12);
+        fault("dry 9/", 5);
+        fault("dry 9:", 5);
+        fault("dry 9`", 5);
+        fault("dry 9{", 5);
     }
 
     private static void promise11Deep() {
