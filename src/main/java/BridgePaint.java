@@ -537,8 +537,8 @@ public final class BridgePaint {
             }
             int row = rows;
             rows = row + 1;
-            for (int column = 0; column < columns; column++) {
-                set(row, column, 0);
+            for (int at = row * columns; at < rows * columns && at < cells.length; at++) {
+                cells[at] = 0;
             }
             return row;
         }
@@ -568,7 +568,11 @@ public final class BridgePaint {
 
         /** Whether the row's first two columns have the day between them. */
         boolean isSpanned(int row, int day) {
-            return day >= get(row, State.FROM) && day <= get(row, State.TO);
+            int at = row * columns;
+            if (row < 0 || row >= rows || columns < 2 || at + 1 >= cells.length) {
+                return false;
+            }
+            return day >= cells[at] && day <= cells[at + 1];
         }
 
         boolean isSpannedByAny(int day) {
@@ -1777,7 +1781,7 @@ public final class BridgePaint {
             int unit = CHOICES / 3;
             int askedUnit = 1;
             for (int bay = 0; bay < state.bays.size(); bay++) {
-                addBay(bay, unit);
+                addBay(bay, unit, coin);
                 if (bay == askedBay) {
                     askedUnit = unit;
                 }
@@ -1791,8 +1795,8 @@ public final class BridgePaint {
         }
 
         /** From the most coin down, as less coin must still tell of the bays ahead alone. */
-        private void addBay(int bay, int unit) {
-            for (int coin = least.length - 1; coin >= 0; coin--) {
+        private void addBay(int bay, int unit, int most) {
+            for (int coin = Math.min(most, least.length - 1); coin >= 0; coin--) {
                 int best = FAR_ABOVE;
                 for (int coats = 0; coats <= 2; coats++) {
                     int rest = coin - state.bays.get(bay, State.COST + coats);

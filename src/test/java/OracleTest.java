@@ -48,7 +48,7 @@ final class OracleTest {
     private OracleTest(long seed) {
         random = new Random(seed);
         lastDay = new int[] {6, 20, 60, 199}[random.nextInt(4)];
-        wrongPart = new int[] {0, 40, 12}[random.nextInt(3)];
+        wrongPart = new int[] {0, 40, 12, 1}[random.nextInt(4)];
         for (Method method : BridgePaint.class.getDeclaredMethods()) {
             faces.put(method.getName(), method);
         }
