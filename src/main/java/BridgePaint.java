@@ -849,7 +849,7 @@ public final class BridgePaint {
         static final int MOST_LINES = 10;
         private static final int MOST_DEEP = 6;
         private static final int MOST_DRY = 48;
-        // The parts that wait: six of ( and not, and an and and an or ahead of, within and between them.
+        // Of ( and not six can wait at once, and at each of the seven depths one AND and one OR: 20.
         private static final int MOST_WAITING = 3 * (MOST_DEEP + 1);
 
         private final Tape tape;
