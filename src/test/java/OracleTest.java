@@ -32,7 +32,8 @@ final class OracleTest {
             + " days may ends last bare bare steel steel below why at hours risk match recall worst nest span span"
             + " order put cost wear wear spent rust";
 
-    private static final int CALLS_A_RUN = 400;
+    /** As many calls as an object is used for, less a long text and what is told with it. */
+    private static final int CALLS_A_RUN = 512 - 30;
 
     private final Random random;
     private final BridgePaint paint = new BridgePaint();
@@ -44,6 +45,7 @@ final class OracleTest {
     private final int lastDay;
     private final int wrongPart;
     private int firstDay;
+    private int calls;
 
     private OracleTest(long seed) {
         random = new Random(seed);
@@ -78,13 +80,13 @@ final class OracleTest {
 
     private boolean run(long seed) {
         begin();
-        for (int i = log.size(); i < CALLS_A_RUN; i++) {
+        while (calls < CALLS_A_RUN) {
             int kind = random.nextInt(60);
             boolean same = kind == 0 ? tell(OracleTexts.any(random)) && same("terms")
                     : same(picks.get(random.nextInt(picks.size())));
             if (!same) {
                 Check.complain("in the run of seed " + seed + ":");
-                for (String call : log.subList(Math.max(0, log.size() - 400), log.size())) {
+                for (String call : log) {
                     System.out.println("  " + call);
                 }
                 return false;
@@ -115,6 +117,7 @@ final class OracleTest {
 
     private boolean tell(String text) {
         log.add("text \"" + text + "\"");
+        calls += 2 + (text.length() + 19) / 20;
         Check.tape(paint, text);
         oracle.end(0);
         StringBuilder padded = new StringBuilder(text);
@@ -144,6 +147,7 @@ final class OracleTest {
         for (int i = 1; i < kinds.length; i++) {
             arguments[i - 1] = kinds[i].equals("bool") ? (Object) random.nextBoolean() : (Object) argument(kinds[i]);
         }
+        calls++;
         String answer = answer(faces.get(name), paint, arguments);
         String due = answer(oracles.get(name), oracle, arguments);
         log.add(name + java.util.Arrays.toString(arguments) + " = " + answer + (answer.equals(due) ? "" : ", due " + due));
@@ -181,7 +185,7 @@ final class OracleTest {
             case "hour": return random.nextInt(12);
             case "hour0": return firstDay = random.nextInt(12);
             case "hour1": return ordered(firstDay, 11);
-            case "known": return random.nextInt(Math.min(200, Math.max(2, paint.count(7) + 2)));
+            case "known": return random.nextInt(Math.min(200, Math.max(2, oracle.count(7) + 2)));
             case "wind": return random.nextInt(20) - 10;
             case "heat": return random.nextInt(31);
             case "hours": return random.nextInt(4096) & random.nextInt(4096);
@@ -205,8 +209,8 @@ final class OracleTest {
             case "what7": return random.nextInt(8);
             case "what3": return random.nextInt(4);
             case "what2": return random.nextInt(3);
-            case "set": return few(random.nextInt(1 << Math.max(1, paint.count(0))));
-            case "bayOrNone": return random.nextInt(paint.count(0) + 1) - 1;
+            case "set": return few(random.nextInt(1 << Math.max(1, oracle.count(0))));
+            case "bayOrNone": return random.nextInt(oracle.count(0) + 1) - 1;
             default: return numbered(kind);
         }
     }
@@ -228,7 +232,7 @@ final class OracleTest {
     /** A number that there is, mostly. */
     private int numbered(String kind) {
         int what = List.of("bay", "terms", "gang", "batch", "job").indexOf(kind);
-        return random.nextInt(Math.max(1, paint.count(what)));
+        return random.nextInt(Math.max(1, oracle.count(what)));
     }
 
     /** Texts alone: right ones, ones with a wrong thing, and rubbish. */

@@ -323,7 +323,7 @@ final class RestTest {
         found[at++] = paint.match(0, 199);
         found[at++] = paint.worst(199);
         found[at++] = paint.thick();
-        for (int moment = 30; moment < 80; moment++) {
+        for (int moment = 38; moment < 56; moment++) {
             found[at++] = paint.may(0, moment) ? 1 : 0;
         }
         return found;
