@@ -7,6 +7,7 @@ final class EdgePastTest {
         lastDays();
         lastOfSeveral();
         covered();
+        coveredByTheLatest();
         caughtDays();
         holdsDays();
         holdsToTheEnd();
@@ -114,6 +115,22 @@ final class EdgePastTest {
         Check.due("a batch that failed, and a job that peels, are none the less told", paint.fail(1) && paint.peel(4), true);
         Check.due("as ever", paint.recall(1, 1, true), 3);
         Check.due("as ever, all", paint.recall(1, 1, false), 3);
+    }
+
+    /** "later than all of it": the latest one counts, not the one that is told last. */
+    private static void coveredByTheLatest() {
+        int[][] ends = {{50, 30, 40}, {50, 30, 60}, {30, 50, 40}, {30, 50, 60}, {50, 30, 20}, {7, 5, 6}};
+        for (int[] end : ends) {
+            for (int own = 0; own < 2; own++) {
+                BridgePaint paint = ready("");
+                paint.job(0, 0, 0, own, end[0] - 1);
+                paint.job(0, 0, 0, own, end[1] - 1);
+                paint.job(0, 0, 0, 1 - own, end[2] - 1);
+                boolean isLater = end[2] > Math.max(end[0], end[1]);
+                Check.due("covered by " + end[2], paint.recall(own, 0, true), isLater ? 1 : 0);
+                Check.due("covers " + end[2], paint.recall(1 - own, 0, true), isLater ? 0 : 1);
+            }
+        }
     }
 
     /** "JOBS known whose BEGIN lies in DAYS from one to another one" */
@@ -650,6 +667,17 @@ final class EdgePastTest {
         Check.due("other days do not count", paint.risk(0), 4 * 81);
         paint.span(true, 0, 0);
         Check.due("a strike", paint.risk(0), 0);
+        BridgePaint second = ready("stop if wind > 8", "stop if hour > 6", "stop if heat < 1");
+        second.job(1, 1, 0, 0, 4);
+        second.job(2, 1, 0, 0, 100);
+        second.job(0, 1, 0, 0, 200);
+        second.weather(0, 199, 0, 11, 9, 0);
+        Check.due("by terms 1: at 4, 5, 6 and 12", second.risk(0), 4 * 81);
+        Check.due("by terms 2: it is closed now", second.risk(1), 0);
+        Check.due("by terms 0: it is closed now", second.risk(2), 0);
+        second.weather(0, 199, 0, 11, 8, 1);
+        Check.due("by terms 2: it is open now", second.risk(1), 4 * 72);
+        Check.due("by terms 0: it is open now", second.risk(2), 4 * 72);
         BridgePaint last = ready("");
         last.weather(0, 199, 0, 11, 9, 0);
         Check.due("to the end of all", last.job(0, 1, 0, 0, 2396), 0);

@@ -25,6 +25,7 @@ final class EdgeTest {
         toldJobs();
         ordersBetween();
         ordersBegin();
+        ordersOfNone();
         ordersFirst();
         ordersSix();
         puts();
@@ -436,6 +437,29 @@ final class EdgeTest {
         Check.due("best from 4 on: bay 0 first", paint.order(0, 0, 3, 4, 0), 13);
         Check.due("first from 4 on", paint.order(0, 0, 3, 4, 2), 0);
         Check.due("no work of an order is a job", paint.count(4), 1);
+    }
+
+    /** "none, if it cannot be": one bay that has no end is enough, wherever it stands. */
+    private static void ordersOfNone() {
+        for (int closed = 0; closed < 4; closed++) {
+            BridgePaint paint = new BridgePaint();
+            for (int bay = 0; bay < 4; bay++) {
+                paint.bay(0, bay == closed ? 9 : bay, 2, 0);
+            }
+            paint.gang(1);
+            Check.terms(paint, "stop if height > 8");
+            for (int set = 1; set < 16; set++) {
+                boolean isNone = (set >> closed & 1) == 1;
+                for (int what = 0; what < 3; what++) {
+                    int answer = paint.order(0, 0, set, 0, what);
+                    Check.due("order of " + set + " without " + closed + ", what " + what + ": " + answer,
+                            answer == -1, isNone);
+                }
+                if (Integer.bitCount(set) == 1) {
+                    Check.due("put to " + set, paint.put(0, set, 0, -1), isNone ? -1 : 2);
+                }
+            }
+        }
     }
 
     /** "FIRST: the first BAY of a BEST order, of several the least." */
