@@ -24,6 +24,7 @@ final class FullTest {
         fullBolts();
         fullTexts();
         fullRefused();
+        textsRefused();
         nothingHappens();
         Check.finish("FullTest");
     }
@@ -463,6 +464,30 @@ final class FullTest {
             paint.end(0);
         };
         refused("a fourth text", full, texts, paint -> paint.terms());
+    }
+
+    /** "a call that throws changes nothing but the TAPE, where it is used up, and fault(), where a text is read" */
+    private static void textsRefused() {
+        String[] texts = {"stop if rain", "pay 9;pay 8;dry 7;holds 6;stop if 1<2;pay", "dry 49", "((((((("};
+        int[] faults = {8, 41, 4, 0};
+        for (int i = 0; i < texts.length; i++) {
+            for (int more = 0; more < 2; more++) {
+                BridgePaint paint = Whole.told();
+                BridgePaint other = Whole.told();
+                for (int terms = 0; terms < more; terms++) {
+                    Check.due("a third text", Check.terms(paint, "pay 1"), 2);
+                    Check.due("a third text", Check.terms(other, "pay 1"), 2);
+                }
+                String text = texts[i];
+                Check.argument("terms() of " + text, () -> Check.terms(paint, text));
+                other.end(0);
+                List<String> found = Whole.of(paint);
+                List<String> due = Whole.of(other);
+                Check.due(found.get(0) + " of " + text, found.get(0).equals("fault " + faults[i]), true);
+                String changed = Whole.difference(found.subList(1, found.size()), due.subList(1, due.size()));
+                Check.due("all else is as it was, not " + changed, changed == null, true);
+            }
+        }
     }
 
     private static void answered(String what, Object due, Consumer<BridgePaint> fill, Function<BridgePaint, Object> call) {
