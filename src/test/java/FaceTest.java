@@ -36,6 +36,7 @@ final class FaceTest {
 
     public static void main(String[] args) throws Exception {
         methods();
+        asTheDocumentWritesIt();
         otherMembers();
         nestedClasses();
         source();
@@ -70,6 +71,25 @@ final class FaceTest {
                 Check.due(method + " bears a name of the face", names.contains(method.getName()), false);
             }
         }
+    }
+
+    /** Names of parameters and exceptions too, which the methods' kinds alone do not tell. */
+    private static void asTheDocumentWritesIt() throws Exception {
+        String document = Files.readString(Path.of("../shared/DOC.md"));
+        int from = document.indexOf("public final class BridgePaint {");
+        String face = document.substring(from, document.indexOf("```", from));
+        String program = Files.readString(Path.of("src/main/java/BridgePaint.java")).replaceAll("\\s+", " ");
+        int lines = 0;
+        for (String line : face.split("\n")) {
+            String told = line.strip();
+            if (told.startsWith("public ") && told.endsWith(";")) {
+                lines++;
+                boolean isConstant = told.contains("=");
+                String due = isConstant ? told : told.substring(0, told.length() - 1) + " {";
+                Check.due("the program has " + due, program.contains(" " + due + " "), true);
+            }
+        }
+        Check.due("the constant, the constructor and the methods", lines, 2 + FACE.length);
     }
 
     private static void otherMembers() throws Exception {
