@@ -5,7 +5,6 @@ import java.lang.reflect.Modifier;
 import java.nio.file.Files;
 import java.nio.file.Path;
 import java.util.ArrayList;
-import java.util.Arrays;
 import java.util.Collections;
 import java.util.HashSet;
 import java.util.List;
@@ -14,21 +13,70 @@ import java.util.regex.Pattern;
 
 /** The class has the document's face and no other, and keeps to the rules that can be read off it. */
 final class FaceTest {
+    /** As the document writes it. */
     private static final String[] FACE = {
-        "int feed(int, int, int, int, int)", "boolean end(int)", "int days(int)", "int bay(int, int, int, int)",
-        "int weather(int, int, int, int, int, int)", "void trains(int)", "int span(boolean, int, int)",
-        "int nest(int, int, int)", "int terms()", "int fault()", "int why(int, int, int, int)",
-        "int at(int, int, int, int, int)", "int hours(int, int, int, int, int)", "int gang(int)",
-        "int batch(int, int, int)", "int ends(int, int, int, int)", "boolean may(int, int)",
-        "int job(int, int, int, int, int)", "int look(int, int)", "boolean peel(int)", "boolean fail(int)",
-        "int last(int, int, int)", "int recall(int, int, boolean)", "int left(int)", "int caught(int, int, int)",
-        "int bare(int, int, int, int)", "void rust(int, int, int)", "int reading(int, int, int)",
-        "int steel(int, int, int, boolean)", "int below(int, int, int)", "int order(int, int, int, int, int)",
-        "int put(int, int, int, int)", "void cost(int, int, int)", "void wear(int, int, int, int)",
-        "int spent(int, int)", "long promise(int, int, int)", "int edge(int, int, int, int)", "int even(int)",
-        "int peels(int, int, boolean)", "int worst(int)", "int risk(int)", "int match(int, int)",
-        "int bolt(int, int)", "int finds(int, int, int)", "int thick()", "void image()", "boolean back()",
-        "int count(int)"
+        "int feed(int a, int b, int c, int d, int e)",
+        "boolean end(int n)",
+        "int days(int n) throws IllegalArgumentException",
+        "int bay(int side, int height, int need, int steel) throws IllegalArgumentException,"
+                + " UnsupportedOperationException",
+        "int weather(int fromDay, int toDay, int fromHour, int toHour, int wind, int heat) throws"
+                + " IndexOutOfBoundsException, IllegalArgumentException, UnsupportedOperationException",
+        "void trains(int hours) throws IllegalArgumentException",
+        "int span(boolean strike, int from, int to) throws IndexOutOfBoundsException,"
+                + " IllegalArgumentException, UnsupportedOperationException",
+        "int nest(int bay, int from, int to) throws IndexOutOfBoundsException, IllegalArgumentException,"
+                + " UnsupportedOperationException",
+        "int terms() throws IllegalArgumentException, UnsupportedOperationException",
+        "int fault()",
+        "int why(int terms, int bay, int day, int hour) throws IndexOutOfBoundsException",
+        "int at(int terms, int bay, int day, int hour, int what) throws IndexOutOfBoundsException,"
+                + " NoSuchElementException",
+        "int hours(int terms, int bay, int from, int to, int what) throws IndexOutOfBoundsException,"
+                + " IllegalArgumentException, NoSuchElementException",
+        "int gang(int skill) throws IllegalArgumentException, UnsupportedOperationException",
+        "int batch(int tins, int lead, int colour) throws IllegalArgumentException,"
+                + " UnsupportedOperationException",
+        "int ends(int terms, int bay, int gang, int moment) throws IndexOutOfBoundsException",
+        "boolean may(int bay, int moment) throws IndexOutOfBoundsException",
+        "int job(int terms, int bay, int gang, int batch, int moment) throws IndexOutOfBoundsException,"
+                + " UnsupportedOperationException",
+        "int look(int job, int what) throws IndexOutOfBoundsException, NoSuchElementException",
+        "boolean peel(int job) throws IndexOutOfBoundsException",
+        "boolean fail(int batch) throws IndexOutOfBoundsException",
+        "int last(int bay, int day, int known) throws IndexOutOfBoundsException",
+        "int recall(int batch, int known, boolean covered) throws IndexOutOfBoundsException",
+        "int left(int batch) throws IndexOutOfBoundsException",
+        "int caught(int from, int to, int known) throws IndexOutOfBoundsException, IllegalArgumentException",
+        "int bare(int bay, int from, int to, int known) throws IndexOutOfBoundsException,"
+                + " IllegalArgumentException",
+        "void rust(int side, int least, int greatest) throws IndexOutOfBoundsException,"
+                + " IllegalArgumentException",
+        "int reading(int bay, int day, int steel) throws IndexOutOfBoundsException,"
+                + " IllegalArgumentException, UnsupportedOperationException",
+        "int steel(int bay, int day, int known, boolean most) throws IndexOutOfBoundsException",
+        "int below(int bay, int limit, int known) throws IndexOutOfBoundsException, IllegalArgumentException",
+        "int order(int terms, int gang, int set, int moment, int what) throws IndexOutOfBoundsException,"
+                + " IllegalArgumentException, NoSuchElementException",
+        "int put(int terms, int set, int moment, int bay) throws IndexOutOfBoundsException,"
+                + " IllegalArgumentException",
+        "void cost(int bay, int one, int two) throws IndexOutOfBoundsException, IllegalArgumentException",
+        "void wear(int bay, int none, int one, int two) throws IndexOutOfBoundsException,"
+                + " IllegalArgumentException",
+        "int spent(int coin, int bay) throws IndexOutOfBoundsException, IllegalArgumentException",
+        "long promise(int years, int h, int hard) throws IllegalArgumentException",
+        "int edge(int years, int h, int hard, int always) throws IllegalArgumentException",
+        "int even(int years) throws IllegalArgumentException",
+        "int peels(int gang, int known, boolean all) throws IndexOutOfBoundsException",
+        "int worst(int known) throws IndexOutOfBoundsException",
+        "int risk(int job) throws IndexOutOfBoundsException",
+        "int match(int colour, int known) throws IndexOutOfBoundsException, IllegalArgumentException",
+        "int bolt(int bay, int day) throws IndexOutOfBoundsException",
+        "int finds(int bay, int from, int to) throws IndexOutOfBoundsException, IllegalArgumentException",
+        "int thick()",
+        "void image()",
+        "boolean back()",
+        "int count(int what)"
     };
 
     private FaceTest() {
@@ -44,11 +92,23 @@ final class FaceTest {
     }
 
     private static String signature(Method method) {
-        List<String> kinds = new ArrayList<>();
-        for (Class<?> kind : method.getParameterTypes()) {
-            kinds.add(kind.getName());
+        String text = method.getReturnType().getName() + " " + method.getName()
+                + "(" + names(method.getParameterTypes()) + ")";
+        String thrown = names(method.getExceptionTypes());
+        return thrown.isEmpty() ? text : text + " throws " + thrown;
+    }
+
+    private static String names(Class<?>[] kinds) {
+        List<String> names = new ArrayList<>();
+        for (Class<?> kind : kinds) {
+            names.add(kind.getSimpleName());
         }
-        return method.getReturnType().getName() + " " + method.getName() + "(" + String.join(", ", kinds) + ")";
+        return String.join(", ", names);
+    }
+
+    /** The document's line without the names of the parameters. */
+    private static String signature(String told) {
+        return told.replaceAll("\\b(int|boolean) \\w+(?=[,)])", "$1");
     }
 
     private static void methods() {
@@ -61,7 +121,10 @@ final class FaceTest {
                 names.add(method.getName());
             }
         }
-        List<String> due = new ArrayList<>(Arrays.asList(FACE));
+        List<String> due = new ArrayList<>();
+        for (String told : FACE) {
+            due.add(signature(told));
+        }
         Collections.sort(due);
         Collections.sort(found);
         Check.due("the face " + found + " is " + due, found.equals(due), true);
@@ -73,23 +136,14 @@ final class FaceTest {
         }
     }
 
-    /** Names of parameters and exceptions too, which the methods' kinds alone do not tell. */
+    /** Names of parameters too, which the compiled methods do not tell. */
     private static void asTheDocumentWritesIt() throws Exception {
-        String document = Files.readString(Path.of("../shared/DOC.md"));
-        int from = document.indexOf("public final class BridgePaint {");
-        String face = document.substring(from, document.indexOf("```", from));
         String program = Files.readString(Path.of("src/main/java/BridgePaint.java")).replaceAll("\\s+", " ");
-        int lines = 0;
-        for (String line : face.split("\n")) {
-            String told = line.strip();
-            if (told.startsWith("public ") && told.endsWith(";")) {
-                lines++;
-                boolean isConstant = told.contains("=");
-                String due = isConstant ? told : told.substring(0, told.length() - 1) + " {";
-                Check.due("the program has " + due, program.contains(" " + due + " "), true);
-            }
+        for (String told : FACE) {
+            Check.due("the program has " + told, program.contains(" public " + told + " { "), true);
         }
-        Check.due("the constant, the constructor and the methods", lines, 2 + FACE.length);
+        Check.due("constructor", program.contains(" public BridgePaint() { "), true);
+        Check.due("constant", program.contains(" public static final int NONE = -1; "), true);
     }
 
     private static void otherMembers() throws Exception {
